@@ -39,10 +39,10 @@ public final class MarkTables {
     private static final int INTS = 2;
 
     /**
-     * A turn as a number of eight octal digits, that of place 0 in front, so that
-     * numbers stand in the order that the document asks of turns.
+     * Turns are numbers of eight digits of three bits, that of place 0 in front, so
+     * that they stand in the order that the document asks for; 0 1 2 .. 7 is this.
      */
-    private static final int NOTHING_MOVED = 001234567;
+    private static final int NOTHING_MOVED = 0x053977;
 
     private final Sheet[] sheets = new Sheet[SHEETS];
     private final int[] sheetCodes = new int[SHEETS];
@@ -1150,12 +1150,13 @@ public final class MarkTables {
 
         /** The least heap over a set lies within each other one over it, so it is the first. */
         int leastOver(long setLow, long setHigh) {
-            for (int h = 0; h < count; h++) {
+            int whole = count - 1;
+            for (int h = 0; h < whole; h++) {
                 if ((setLow & ~low[h]) == 0 && (setHigh & ~high[h]) == 0) {
                     return h;
                 }
             }
-            return NONE;
+            return whole;
         }
 
         int normalWithin(int h) {
