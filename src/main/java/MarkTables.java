@@ -581,7 +581,7 @@ public final class MarkTables {
 
     // ---- numbers
 
-    /** Numbers from 0 to MOST + 1; what would be above MOST is MOST + 1. */
+    /** MOST + 1 stands for all numbers above MOST; 0 times any of them is still 0. */
     private static long timesUpTo(long x, long y) {
         if (x == 0 || y == 0) {
             return 0;
@@ -1508,14 +1508,10 @@ public final class MarkTables {
         /** Each part of a is led by one of its places, which goes where its heap leaves places. */
         long mapsAlong(int a, int b) {
             long ways = 1;
-            boolean isNowhere = false;
             for (int c = 0; c < group.heaps.classes; c++) {
-                long part = partOf(a, c);
-                long left = markOf(b, c);
-                isNowhere = isNowhere || (part > 0 && left == 0);
-                ways = timesUpTo(ways, powerUpTo(left, part));
+                ways = timesUpTo(ways, powerUpTo(markOf(b, c), partOf(a, c)));
             }
-            return isNowhere ? 0 : ways;
+            return ways;
         }
 
         long mapsOnToAll(int a, int b) {

@@ -6,8 +6,8 @@ public final class AnyCallsTest {
     private static final int CALLS = 512;
     private static final int RUNS = 300;
     private static final int KINDS = 36;
-    private static final int[] EDGES = {Integer.MIN_VALUE, Integer.MIN_VALUE + 1, -1000001, -9, -2, -1, 0, 1, 2, 3, 4, 5,
-        6, 7, 8, 9, 10, 11, 63, 64, 65, 100, 101, 119, 120, 121, 255, 256, 257, 299, 300, 301, 65536, 65537, 1000000,
+    private static final int[] EDGES = {
+        Integer.MIN_VALUE, Integer.MIN_VALUE + 1, -1000001, -9, -2, -1, 0, 1, 2, 3, 4, 5, 6, 7, 8, 9, 10, 11, 63, 64, 65, 100, 101, 119, 120, 121, 255, 256, 257, 299, 300, 301, 65536, 65537, 1000000,
         1000001, Integer.MAX_VALUE - 1, Integer.MAX_VALUE};
     private static final int[][] ORDERS = {{1, 0}, {1, 2, 0}, {1, 2, 3, 0}, {0, 1, 3, 2}, {2, 1, 0}, {1, 2, 3, 4, 0},
         {0, 1, 2, 3, 5, 4}, {1, 0, 3, 2, 5, 4, 7, 6}, {1, 2, 3, 4, 5, 6, 7, 0}, {0, 1, 2, 4, 3}, {}};

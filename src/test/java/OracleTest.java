@@ -44,7 +44,8 @@ public final class OracleTest {
         new OracleTest("quaternions", 8,
             new int[][] {{1, 2, 3, 0, 5, 6, 7, 4}, {4, 7, 6, 5, 2, 1, 0, 3}}).testAll();
         new OracleTest("seven with factors", 7, new int[][] {{1, 2, 3, 4, 5, 6, 0}, {0, 3, 6, 2, 5, 1, 4}}).testAll();
-        new OracleTest("eight with factors", 8, new int[][] {{1, 0, 3, 2, 5, 4, 7, 6}, {0, 2, 4, 6, 3, 1, 7, 5}}).testAll();
+        new OracleTest("eight with factors", 8,
+            new int[][] {{1, 0, 3, 2, 5, 4, 7, 6}, {0, 2, 4, 6, 3, 1, 7, 5}}).testAll();
         for (int i = 0; i < 60; i++) {
             drawn(i).testAll();
         }

@@ -10,7 +10,12 @@ public final class PromisesTest {
         DUES.due("promise " + promise + ", " + what, got, want);
     }
 
-    /** A call that is refused: its answer, the status behind it, and that all else stays. */
+    /** A call that is refused: its answer, and the status behind it. */
+    private static void refused(int promise, String what, MarkTables x, long got, int code) {
+        due(promise, what, got, code);
+        due(36, "status behind " + what, x.status(), code);
+    }
+
     private static void stays(int promise, String what, MarkTables x, String before) {
         DUES.isTrue("promise " + promise + ", all stays behind " + what, before.equals(Dues.view(x)));
     }
@@ -65,7 +70,7 @@ public final class PromisesTest {
         due(1, "status", x.status(), 0);
         due(1, "misfit", x.misfit(), -1);
         for (int s = 0; s < 4; s++) {
-            due(1, "sheet missing", x.write(s, 0, 0), -2);
+            refused(1, "sheet missing", x, x.write(s, 0, 0), -2);
         }
         due(1, "turn", x.turn(0, 0), 0);
         due(1, "heap size", x.heap(0, 0), 1);
@@ -86,50 +91,50 @@ public final class PromisesTest {
         MarkTables x = new MarkTables();
         due(2, "length 0", x.sheet(0, 0, 0), 0);
         due(2, "length 8", x.sheet(3, 2, 8), 8);
-        due(2, "sheet below", x.sheet(-1, 0, 1), -1);
-        due(2, "sheet above", x.sheet(4, 0, 1), -1);
-        due(2, "sort below", x.sheet(0, -1, 1), -1);
-        due(2, "sort above", x.sheet(0, 3, 1), -1);
-        due(2, "length above", x.sheet(0, 0, 9), -1);
-        due(2, "length far above", x.sheet(0, 0, HIGH), -1);
-        due(2, "-1 is ahead of -4", x.sheet(0, 7, -1), -1);
+        refused(2, "sheet below", x, x.sheet(-1, 0, 1), -1);
+        refused(2, "sheet above", x, x.sheet(4, 0, 1), -1);
+        refused(2, "sort below", x, x.sheet(0, -1, 1), -1);
+        refused(2, "sort above", x, x.sheet(0, 3, 1), -1);
+        refused(2, "length above", x, x.sheet(0, 0, 9), -1);
+        refused(2, "length far above", x, x.sheet(0, 0, HIGH), -1);
+        refused(2, "-1 is ahead of -4", x, x.sheet(0, 7, -1), -1);
         due(2, "that left the sheet", x.write(3, 7, 7), 0);
-        due(2, "length below", x.sheet(3, 2, LOW), -4);
+        refused(2, "length below", x, x.sheet(3, 2, LOW), -4);
         due(2, "status", x.status(), -4);
-        due(2, "then it is missing", x.write(3, 7, 7), -2);
+        refused(2, "then it is missing", x, x.write(3, 7, 7), -2);
         Dues.lay(x, 0, 1, 0);
         due(2, "numbers are 0 anew", x.sheet(0, 1, 2), 2);
-        due(2, "two 0 are no order", x.group(2), -6);
+        refused(2, "two 0 are no order", x, x.group(2), -6);
         due(2, "one number 0", x.sheet(0, 0, 1), 1);
         due(2, "is an order", x.group(2), 1);
     }
 
     private static void writeTold() {
         MarkTables x = new MarkTables();
-        due(3, "no sheet", x.write(-1, 0, 0), -1);
-        due(3, "no sheet", x.write(4, 99, 0), -1);
-        due(3, "missing", x.write(0, 99, 0), -2);
+        refused(3, "no sheet", x, x.write(-1, 0, 0), -1);
+        refused(3, "no sheet", x, x.write(4, 99, 0), -1);
+        refused(3, "missing", x, x.write(0, 99, 0), -2);
         x.sheet(0, 0, 2);
-        due(3, "beyond", x.write(0, 2, 0), -3);
+        refused(3, "beyond", x, x.write(0, 2, 0), -3);
         due(3, "status", x.status(), -3);
-        due(3, "ahead", x.write(0, -1, 0), -3);
+        refused(3, "ahead", x, x.write(0, -1, 0), -3);
         due(3, "written", x.write(0, 0, 257), 0);
         due(3, "status", x.status(), 0);
         due(3, "a byte of 257 is 1", x.group(2), 2);
         x.write(0, 0, 255);
-        due(3, "a byte of 255 is below 0", x.group(2), -6);
+        refused(3, "a byte of 255 is below 0", x, x.group(2), -6);
         x.sheet(0, 1, 2);
         x.write(0, 0, 257);
-        due(3, "a short of 257 is none", x.group(2), -6);
+        refused(3, "a short of 257 is none", x, x.group(2), -6);
         x.write(0, 0, 65537);
         due(3, "a short of 65537 is 1", x.group(2), 2);
         x.sheet(0, 2, 2);
         x.write(0, 0, 65537);
-        due(3, "an int of 65537 is none", x.group(2), -6);
+        refused(3, "an int of 65537 is none", x, x.group(2), -6);
         x.write(0, 0, 1);
         due(3, "an int of 1", x.group(2), 2);
         x.sheet(1, 0, 0);
-        due(3, "an empty sheet has no place", x.write(1, 0, 0), -3);
+        refused(3, "an empty sheet has no place", x, x.write(1, 0, 0), -3);
     }
 
     private static void groupTold() {
@@ -142,7 +147,7 @@ public final class PromisesTest {
         due(4, "at most n numbers", x.group(2), 2);
         due(4, "acts are missing", x.count(4), 0);
         due(4, "the row is empty", x.count(5), 0);
-        due(4, "more of them", x.group(3), -6);
+        refused(4, "more of them", x, x.group(3), -6);
         Dues.lay(x, 0, 1, 0);
         due(4, "places beyond stay", x.group(8), 2);
         due(4, "places", x.count(0), 8);
@@ -166,25 +171,25 @@ public final class PromisesTest {
         x.coset(0, 1);
         x.row(5);
         String before = Dues.view(x);
-        due(4, "no places", x.group(0), -1);
-        due(4, "too many places", x.group(9), -1);
-        due(4, "far off", x.group(LOW), -1);
+        refused(4, "no places", x, x.group(0), -1);
+        refused(4, "too many places", x, x.group(9), -1);
+        refused(4, "far off", x, x.group(LOW), -1);
         Dues.lay(x, 0, 1, 2, 3, 4, 5, 0);
-        due(4, "beyond 120 turns", x.group(6), -5);
+        refused(4, "beyond 120 turns", x, x.group(6), -5);
         due(4, "status", x.status(), -5);
         stays(4, "too many turns", x, before);
         Dues.lay(x, 3, 0, 0);
-        due(4, "-6 is looked at first", x.group(6), -6);
+        refused(4, "-6 is looked at first", x, x.group(6), -6);
         stays(4, "no order", x, before);
         Dues.lay(x, 3, 0, 3);
-        due(4, "a number that is no place", x.group(3), -6);
+        refused(4, "a number that is no place", x, x.group(3), -6);
         Dues.lay(x, 3, 0, 2);
-        due(4, "a place that stays is taken", x.group(3), -6);
+        refused(4, "a place that stays is taken", x, x.group(3), -6);
         Dues.lay(x, 0, 1, 2, 3, 0);
         Dues.lay(x, 1, 2, 1, 0);
         Dues.lay(x, 2, 0, 1, 2, 3, 5, 6, 7, 4);
         Dues.lay(x, 3, 0, 1, 2, 3, 6, 5, 4);
-        due(4, "64 turns with too many heaps", x.group(8), -5);
+        refused(4, "64 turns with too many heaps", x, x.group(8), -5);
         stays(4, "too many heaps", x, before);
         Dues.lay(x, 2, 0, 1, 2, 3, 5, 4);
         Dues.lay(x, 3, 0, 1, 2, 3, 4, 5, 7, 6);
@@ -389,10 +394,10 @@ public final class PromisesTest {
             }
         }
         String before = Dues.view(x);
-        due(18, "no act", x.coset(8, 0), -1);
-        due(18, "no act", x.coset(-1, 9), -1);
-        due(18, "no class", x.coset(0, 4), -2);
-        due(18, "no class", x.coset(0, -1), -2);
+        refused(18, "no act", x, x.coset(8, 0), -1);
+        refused(18, "no act", x, x.coset(-1, 9), -1);
+        refused(18, "no class", x, x.coset(0, 4), -2);
+        refused(18, "no class", x, x.coset(0, -1), -2);
         due(18, "status", x.status(), -2);
         stays(18, "no class", x, before);
     }
@@ -412,12 +417,12 @@ public final class PromisesTest {
             due(19, "it is", x.parts(1, rowPart[k]), 1);
         }
         String before = Dues.view(x);
-        due(19, "no act", x.places(8, 0, 0), -1);
-        due(19, "no act", x.places(-1, 0, 0), -1);
-        due(19, "k above", x.places(0, 4, 0), -1);
-        due(19, "k below", x.places(0, -1, 1), -1);
-        due(19, "no way", x.places(0, 1, 2), -1);
-        due(19, "no way", x.places(0, 1, -1), -1);
+        refused(19, "no act", x, x.places(8, 0, 0), -1);
+        refused(19, "no act", x, x.places(-1, 0, 0), -1);
+        refused(19, "k above", x, x.places(0, 4, 0), -1);
+        refused(19, "k below", x, x.places(0, -1, 1), -1);
+        refused(19, "no way", x, x.places(0, 1, 2), -1);
+        refused(19, "no way", x, x.places(0, 1, -1), -1);
         stays(19, "wrong inputs", x, before);
         MarkTables two = Dues.groupOf(8, Dues.order(1, 0));
         due(19, "sets of 4 of 8", two.places(0, 4, 0), 70);
@@ -436,8 +441,8 @@ public final class PromisesTest {
             due(20, "parts " + c, x.parts(2, c), parts[c]);
         }
         due(20, "left by a turn of three", x.act(2, 3, 3), 3);
-        due(20, "no act", x.heaps(8), -1);
-        due(20, "no act", x.heaps(-1), -1);
+        refused(20, "no act", x, x.heaps(8), -1);
+        refused(20, "no act", x, x.heaps(-1), -1);
         due(20, "status", x.status(), -1);
         MarkTables five = Dues.fivePlaces();
         due(20, "heaps of five places", five.heaps(0), 156);
@@ -460,14 +465,14 @@ public final class PromisesTest {
         due(21, "on itself", x.both(0, 0, 0, 0), 18);
         due(21, "parts", x.parts(0, 1), 2);
         String before = Dues.view(x);
-        due(21, "no act", x.both(8, 9, 9, 0), -1);
-        due(21, "no act", x.both(-1, 0, 0, 0), -1);
-        due(21, "no way", x.both(0, 7, 7, 2), -1);
-        due(21, "no way", x.both(0, 0, 0, -1), -1);
-        due(21, "missing b", x.both(0, 7, 0, 0), -2);
-        due(21, "missing c", x.both(0, 0, 7, 1), -2);
-        due(21, "b is none", x.both(0, -1, 0, 1), -2);
-        due(21, "c is none", x.both(0, 0, 8, 1), -2);
+        refused(21, "no act", x, x.both(8, 9, 9, 0), -1);
+        refused(21, "no act", x, x.both(-1, 0, 0, 0), -1);
+        refused(21, "no way", x, x.both(0, 7, 7, 2), -1);
+        refused(21, "no way", x, x.both(0, 0, 0, -1), -1);
+        refused(21, "missing b", x, x.both(0, 7, 0, 0), -2);
+        refused(21, "missing c", x, x.both(0, 0, 7, 1), -2);
+        refused(21, "b is none", x, x.both(0, -1, 0, 1), -2);
+        refused(21, "c is none", x, x.both(0, 0, 8, 1), -2);
         due(21, "status", x.status(), -2);
         stays(21, "wrong inputs", x, before);
     }
@@ -482,13 +487,13 @@ public final class PromisesTest {
         x.many(1, 1, 1000);
         due(21, "just 10 to the 15", x.both(2, 0, 1, 1), MOST);
         x.coset(3, 0);
-        due(21, "one more", x.both(4, 2, 3, 0), -5);
+        refused(21, "one more", x, x.both(4, 2, 3, 0), -5);
         due(21, "status", x.status(), -5);
         due(21, "it is missing", x.count(4), 4);
-        due(21, "times two", x.both(3, 2, 1, 1), -5);
+        refused(21, "times two", x, x.both(3, 2, 1, 1), -5);
         due(21, "nothing is changed", x.act(3, 0, 0), 1);
         due(21, "times one", x.both(3, 2, 3, 1), MOST);
-        due(21, "times all", x.both(4, 2, 2, 1), -5);
+        refused(21, "times all", x, x.both(4, 2, 2, 1), -5);
         due(21, "none of it", x.many(5, 2, 0), 0);
         due(21, "times none", x.both(4, 2, 5, 1), 0);
         due(21, "none times", x.both(4, 5, 2, 1), 0);
@@ -518,16 +523,24 @@ public final class PromisesTest {
         due(22, "49 places", x.colour(3, 4, 2), 1L << 49);
         x.both(4, 4, 0, 0);
         String before = Dues.view(x);
-        due(22, "53 places", x.colour(3, 4, 2), -5);
+        refused(22, "53 places", x, x.colour(3, 4, 2), -5);
         due(22, "status", x.status(), -5);
-        due(22, "no act", x.colour(8, 9, 0), -1);
-        due(22, "no act", x.colour(-1, 0, 0), -1);
-        due(22, "colours below", x.colour(0, 7, -1), -1);
-        due(22, "colours above", x.colour(0, 0, 101), -1);
-        due(22, "missing", x.colour(0, 7, 1), -2);
-        due(22, "none", x.colour(0, -1, 1), -2);
+        refused(22, "no act", x, x.colour(8, 9, 0), -1);
+        refused(22, "no act", x, x.colour(-1, 0, 0), -1);
+        refused(22, "colours below", x, x.colour(0, 7, -1), -1);
+        refused(22, "colours above", x, x.colour(0, 0, 101), -1);
+        refused(22, "missing", x, x.colour(0, 7, 1), -2);
+        refused(22, "none", x, x.colour(0, -1, 1), -2);
         stays(22, "wrong inputs", x, before);
         due(22, "on itself", x.colour(0, 0, 2), 16);
+        MarkTables one = new MarkTables();
+        one.coset(0, 0);
+        one.many(1, 0, 15);
+        due(22, "just 10 to the 15", one.colour(2, 1, 10), MOST);
+        due(22, "as many parts", one.act(2, 1, 0), MOST);
+        due(22, "above", one.colour(2, 1, 11), -5);
+        due(22, "of very many", one.colour(3, 2, 2), -5);
+        due(22, "of very many", one.colour(3, 2, 1), 1);
     }
 
     private static void manyTold() {
@@ -542,17 +555,24 @@ public final class PromisesTest {
         due(23, "it is there", x.count(4), 3);
         x.many(1, 1, 1000000);
         String before = Dues.view(x);
-        due(23, "too many", x.many(3, 1, 1000000), -5);
-        due(23, "too many", x.many(1, 1, 112), -5);
+        refused(23, "far too many", x, x.many(3, 1, 1000000), -5);
+        refused(23, "too many", x, x.many(1, 1, 112), -5);
         due(23, "status", x.status(), -5);
-        due(23, "k above", x.many(1, 7, 1000001), -1);
-        due(23, "k below", x.many(1, 1, -1), -1);
-        due(23, "no act", x.many(8, 1, 1), -1);
-        due(23, "no act", x.many(-1, 1, 1), -1);
-        due(23, "missing", x.many(0, 7, 1), -2);
-        due(23, "none", x.many(0, 8, 1), -2);
+        refused(23, "k above", x, x.many(1, 7, 1000001), -1);
+        refused(23, "k below", x, x.many(1, 1, -1), -1);
+        refused(23, "no act", x, x.many(8, 1, 1), -1);
+        refused(23, "no act", x, x.many(-1, 1, 1), -1);
+        refused(23, "missing", x, x.many(0, 7, 1), -2);
+        refused(23, "none", x, x.many(0, 8, 1), -2);
         stays(23, "wrong inputs", x, before);
-        due(23, "as many as there may be", x.many(1, 1, 111), 999000000000000L);
+        due(23, "nearly as many as there may be", x.many(1, 1, 111), 999000000000000L);
+        MarkTables one = new MarkTables();
+        one.coset(0, 0);
+        one.many(0, 0, 1000000);
+        one.many(0, 0, 1000000);
+        due(23, "as many as there may be", one.many(1, 0, 1000), MOST);
+        due(23, "more", one.many(1, 0, 1001), -5);
+        due(23, "it stays", one.act(1, 0, 0), MOST);
     }
 
     private static void partsAndMarkTold() {
@@ -615,10 +635,10 @@ public final class PromisesTest {
         due(27, "as many places, but", x.same(0, 3), 2);
         due(27, "places", x.same(0, 2), 0);
         due(27, "status", x.status(), 0);
-        due(27, "without a", x.same(7, 0), -2);
+        refused(27, "without a", x, x.same(7, 0), -2);
         due(27, "status", x.status(), -2);
-        due(27, "without b", x.same(0, 7), -2);
-        due(27, "none", x.same(-1, 8), -2);
+        refused(27, "without b", x, x.same(0, 7), -2);
+        refused(27, "none", x, x.same(-1, 8), -2);
     }
 
     private static void mapsTold() {
@@ -681,25 +701,25 @@ public final class PromisesTest {
         MarkTables x = Dues.threePlaces();
         due(29, "one", x.row(1000000000000L), 1);
         due(29, "two", x.row(-1000000000000L), 2);
-        due(29, "above", x.row(1000000000001L), -1);
-        due(29, "below", x.row(-1000000000001L), -1);
-        due(29, "far below", x.row(Long.MIN_VALUE), -1);
-        due(29, "far above", x.row(Long.MAX_VALUE), -1);
+        refused(29, "above", x, x.row(1000000000001L), -1);
+        refused(29, "below", x, x.row(-1000000000001L), -1);
+        refused(29, "far below", x, x.row(Long.MIN_VALUE), -1);
+        refused(29, "far above", x, x.row(Long.MAX_VALUE), -1);
         due(29, "status", x.status(), -1);
         due(29, "three", x.row(0), 3);
         due(29, "four", x.row(0), 4);
-        due(29, "full", x.row(0), -5);
+        refused(29, "full", x, x.row(0), -5);
         due(29, "status", x.status(), -5);
-        due(29, "-1 is ahead", x.row(Long.MAX_VALUE), -1);
+        refused(29, "-1 is ahead", x, x.row(Long.MAX_VALUE), -1);
         due(29, "numbers", x.count(5), 4);
     }
 
     private static void checkTold() {
         MarkTables x = Dues.threePlaces();
         x.coset(0, 0);
-        due(30, "no numbers", x.check(0), -1);
+        refused(30, "no numbers", x, x.check(0), -1);
         Dues.fillRow(x, 5, 1, 2);
-        due(30, "too few", x.check(0), -1);
+        refused(30, "too few", x, x.check(0), -1);
         due(30, "status", x.status(), -1);
         due(30, "it stays", x.count(5), 3);
         x.row(0);
@@ -765,7 +785,7 @@ public final class PromisesTest {
         due(31, "asked again", x.misfit(), 2);
         x.row(1);
         due(31, "a row in between", x.misfit(), 2);
-        due(31, "refused", x.check(0), -1);
+        refused(31, "refused", x, x.check(0), -1);
         due(31, "a refused check() finds nothing out", x.misfit(), 2);
         Dues.fillRow(x, 1, 1, 1);
         due(31, "marks", x.check(0), 2);
@@ -815,7 +835,7 @@ public final class PromisesTest {
 
     private static void imagesTold() {
         MarkTables x = Dues.threePlaces();
-        due(35, "not kept", x.back(0), -2);
+        refused(35, "not kept", x, x.back(0), -2);
         due(35, "status", x.status(), -2);
         x.coset(0, 1);
         x.row(7);
@@ -839,10 +859,10 @@ public final class PromisesTest {
         x.back(2);
         stays(35, "back again", x, first);
         for (int k : new int[] {-1, 3, LOW, HIGH}) {
-            due(34, "no image", x.image(k), -1);
-            due(35, "no image", x.back(k), -1);
+            refused(34, "no image", x, x.image(k), -1);
+            refused(35, "no image", x, x.back(k), -1);
         }
-        due(35, "not kept", x.back(1), -2);
+        refused(35, "not kept", x, x.back(1), -2);
         stays(35, "wrong inputs", x, first);
     }
 
