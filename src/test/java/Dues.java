@@ -24,6 +24,10 @@ final class Dues {
         due(what, got ? 1 : 0, 1);
     }
 
+    int asked() {
+        return asked;
+    }
+
     /** Ends the test: exit code 1 if an answer was wrong. */
     void end() {
         System.out.println(name + ": " + asked + " answers, " + wrong + " wrong");

@@ -46,6 +46,8 @@ public final class OracleTest {
         new OracleTest("seven with factors", 7, new int[][] {{1, 2, 3, 4, 5, 6, 0}, {0, 3, 6, 2, 5, 1, 4}}).testAll();
         new OracleTest("eight with factors", 8,
             new int[][] {{1, 0, 3, 2, 5, 4, 7, 6}, {0, 2, 4, 6, 3, 1, 7, 5}}).testAll();
+        new OracleTest("most turns", 8, Groups.MOST_TURNS).testAll();
+        new OracleTest("most heaps", 8, Groups.MOST_HEAPS).testAll();
         for (int i = 0; i < 60; i++) {
             drawn(i).testAll();
         }
@@ -83,14 +85,13 @@ public final class OracleTest {
 
     /** Groups that are refused have too many heaps, if they have not too many turns. */
     private static void tooMany() {
-        int[][][] groups = {
-            {{1, 2, 3, 0}, {2, 1, 0}, {0, 1, 2, 3, 5, 6, 7, 4}, {0, 1, 2, 3, 6, 5, 4}},
-            {{1, 2, 3, 0}, {1, 0}, {0, 1, 2, 3, 5, 4}, {0, 1, 2, 3, 4, 5, 7, 6}}};
-        for (int[][] orders : groups) {
-            Oracle oracle = new Oracle(8, orders);
+        int[][][] groups = {Groups.MORE_HEAPS, Groups.MANY_MORE_HEAPS};
+        int[] heaps = {389, 420};
+        for (int i = 0; i < groups.length; i++) {
+            Oracle oracle = new Oracle(8, groups[i]);
             DUES.isTrue("few turns", oracle.turns.size() <= 120);
-            DUES.isTrue("many heaps", oracle.heaps.size() > 300);
-            DUES.due("refused", Dues.groupOf(8, orders).status(), -5);
+            DUES.due("many heaps", oracle.heaps.size(), heaps[i]);
+            DUES.due("refused", Dues.groupOf(8, groups[i]).status(), -5);
         }
     }
 
