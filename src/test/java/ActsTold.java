@@ -157,6 +157,11 @@ final class ActsTold extends Told {
         taken("heaps(7)", x, x.heaps(7), 6);
         partsAre("swaps in one part, the others alone", x, 7, 0, 1, 0, 3);
         marksAre("heaps that each class leads to themselves", x, 7, 6, 4, 3, 3);
+        for (int c = 0; c < 4; c++) {
+            x.coset(0, c);
+            taken("behind coset " + c, x, x.heaps(1), 6);
+            partsAre("behind coset " + c, x, 1, 0, 1, 0, 3);
+        }
         MarkTables four = Dues.fourPlaces();
         due("of four places", four.heaps(0), 30);
         for (int t = 0; t < 24; t++) {

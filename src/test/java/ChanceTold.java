@@ -92,12 +92,9 @@ final class ChanceTold extends Told {
         due("three places", Dues.threePlaces().rank(), 2);
         due("five places", Dues.fivePlaces().rank(), 2);
         due("quaternions", Groups.quaternions().rank(), 2);
-        int[] a = Dues.order(1, 0);
-        int[] b = Dues.order(0, 1, 3, 2);
-        int[] c = Dues.order(0, 1, 2, 3, 5, 4);
-        int[] d = Dues.order(0, 1, 2, 3, 4, 5, 7, 6);
-        due("two pairs", Dues.groupOf(8, a, b).rank(), 2);
-        due("three pairs", Dues.groupOf(8, a, b, c).rank(), 3);
-        due("four pairs", Dues.groupOf(8, a, b, c, d).rank(), 4);
+        int[][] pairs = Groups.FOUR_PAIRS;
+        due("two pairs", Dues.groupOf(8, pairs[0], pairs[1]).rank(), 2);
+        due("three pairs", Dues.groupOf(8, pairs[0], pairs[1], pairs[2]).rank(), 3);
+        due("four pairs", Dues.groupOf(8, pairs).rank(), 4);
     }
 }

@@ -270,6 +270,21 @@ final class GroupTold extends Told {
         taken("group(8)", x, x.group(8), 1);
     }
 
+    @Holds(in = "Promise 4", words = "THE GROUP of n PLACES")
+    void groupBehindOtherGroups() {
+        int[][][] orders = {{{1, 2, 3, 0}, {1, 0}}, {{1, 2, 0}, {1, 0}}, {{1, 2, 3, 4, 0}, {1, 0}}, {},
+            {{1, 0}, {0, 1, 3, 2}}, Groups.MOST_HEAPS, {{1, 2, 3, 4, 5, 0}}, {{1, 0}}, Groups.FOUR_PAIRS,
+            {{1, 2, 3, 0}, {1, 0}, {0, 1, 2, 3, 5, 4}}};
+        MarkTables x = new MarkTables();
+        for (int i = 0; i < 2 * orders.length * orders.length; i++) {
+            int one = i % 2 == 0 ? i / 2 / orders.length : i / 2 % orders.length;
+            Groups.lay(x, orders[one]);
+            x.group(8);
+            String alone = Groups.view(Dues.groupOf(8, orders[one]));
+            isTrue("group " + one + " at step " + i + " is as it is alone", alone.equals(Groups.view(x)));
+        }
+    }
+
     @Holds(in = "Promise 4", words = "(at most n of the numbers of each are looked at)")
     void groupLooksAtNumbers() {
         MarkTables x = new MarkTables();
@@ -368,6 +383,26 @@ final class GroupTold extends Told {
             due("parts(" + a + ", 1)", x.parts(a, 1), -1);
             due("mark(" + a + ", 1)", x.mark(a, 1), -1);
         }
+    }
+
+    @Holds(in = "Promise 4", words = "ACTS are missing")
+    void actsOfAGreaterGroup() {
+        MarkTables x = Dues.groupOf(4, Dues.order(1, 0), Dues.order(0, 1, 3, 2));
+        x.coset(0, 4);
+        x.many(0, 0, 1000000);
+        x.coset(1, 0);
+        Groups.lay(x, new int[][] {{1, 2, 0}, {1, 0}});
+        taken("a group of fewer classes", x, x.group(3), 6);
+        x.coset(0, 1);
+        x.coset(1, 1);
+        due("parts", x.act(0, 1, 0), 1);
+        due("same", x.same(0, 1), -1);
+        due("maps", x.maps(0, 1, 0), 1);
+        due("maps on to all", x.maps(0, 1, 1), 1);
+        x.heaps(2);
+        due("heaps", x.act(2, 0, 0), 6);
+        x.both(3, 0, 1, 1);
+        partsAre("pairs", x, 3, 1, 1, 0, 0);
     }
 
     @Holds(in = "Promise 4", words = ", the ROW is empty then")

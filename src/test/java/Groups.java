@@ -11,6 +11,8 @@ final class Groups {
     /** 96 turns with 250 heaps. */
     static final int[][] MOST_HEAPS = {
         {1, 3, 2, 0, 6, 5, 7, 4}, {1, 2, 0, 3, 7, 5, 4, 6}, {3, 0, 1, 2, 6, 7, 5, 4}, {0, 2, 1, 3, 7, 5, 6, 4}};
+    /** 16 turns with 67 heaps. */
+    static final int[][] FOUR_PAIRS = {{1, 0}, {0, 1, 3, 2}, {0, 1, 2, 3, 5, 4}, {0, 1, 2, 3, 4, 5, 7, 6}};
     /** Two squares: 64 turns with 389 heaps. */
     static final int[][] MORE_HEAPS = {
         {1, 2, 3, 0}, {2, 1, 0}, {0, 1, 2, 3, 5, 6, 7, 4}, {0, 1, 2, 3, 6, 5, 4}};
@@ -42,6 +44,46 @@ final class Groups {
 
     static MarkTables quaternions() {
         return Dues.groupOf(8, Dues.order(1, 2, 3, 0, 5, 6, 7, 4), Dues.order(4, 7, 6, 5, 2, 1, 0, 3));
+    }
+
+    /** All that can be asked of the group alone, but for what a few heaps of many are asked, as one text. */
+    static String view(MarkTables x) {
+        StringBuilder text = new StringBuilder();
+        text.append(x.count(0)).append(' ').append(x.simple()).append(' ').append(x.rank()).append('\n');
+        for (int t = 0; t < x.count(1); t++) {
+            for (int p = 0; p < x.count(0); p++) {
+                text.append(x.turn(t, p));
+            }
+            for (int what = 0; what < 4; what++) {
+                text.append(' ').append(x.ofTurn(t, what));
+            }
+            text.append(' ').append(x.product(t, x.count(1) - 1)).append('\n');
+        }
+        for (int h = 0; h < x.count(2); h += 1 + x.count(2) / 20) {
+            for (int what = 0; what < 10; what++) {
+                text.append(x.heap(h, what)).append(' ');
+            }
+            text.append(x.join(h, x.count(2) / 2, 0)).append(' ').append(x.join(h, x.count(2) / 2, 1)).append('\n');
+        }
+        for (int c = 0; c < x.count(3); c++) {
+            for (int d = 0; d < x.count(3); d++) {
+                text.append(x.table(c, d)).append(' ').append(x.within(c, d, 0)).append(' ');
+            }
+            text.append(x.ofClass(c, 1)).append('\n');
+        }
+        for (int k = 0; k <= 6; k++) {
+            text.append(x.chance(k, 0)).append('/').append(x.chance(k, 1)).append(' ').append(x.down(k)).append(' ');
+        }
+        return text.append(x.sylow(2)).append(x.sylow(3)).toString();
+    }
+
+    static boolean hasAll(MarkTables x, int h, boolean[] turns) {
+        for (int t = 0; t < turns.length; t++) {
+            if (turns[t] && x.has(h, t) != 1) {
+                return false;
+            }
+        }
+        return true;
     }
 
     // ---- sets of turns of groups that have fewer than 63, as bits

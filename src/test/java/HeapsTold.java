@@ -96,6 +96,33 @@ final class HeapsTold extends Told {
         due("of the quaternions", Groups.quaternions().heap(5, 5), 1);
     }
 
+    @Holds(in = "Promise 9", words = "the least HEAP that has all")
+    void leastOverTwistsOfManyTurns() {
+        for (MarkTables x : new MarkTables[] {Dues.fivePlaces(), Groups.mostTurnsOfEight(), Groups.mostHeaps()}) {
+            for (int h = 0; h < x.count(2); h++) {
+                boolean[] twists = twistsOf(x, h);
+                int least = 0;
+                while (!Groups.hasAll(x, least, twists)) {
+                    least++;
+                }
+                due("heap(" + h + ", 5)", x.heap(h, 5), least);
+            }
+        }
+    }
+
+    private static boolean[] twistsOf(MarkTables x, int h) {
+        boolean[] twists = new boolean[x.count(1)];
+        for (int s = 0; s < twists.length; s++) {
+            for (int t = 0; t < twists.length && x.has(h, s) == 1; t++) {
+                if (x.has(h, t) == 1) {
+                    int back = x.product(x.ofTurn(s, 0), x.ofTurn(t, 0));
+                    twists[x.product(x.product(s, t), back)] = true;
+                }
+            }
+        }
+        return twists;
+    }
+
     @Holds(in = "Promise 9", words = "6 SIGN")
     void signs() {
         ofSix(6, 3, -1, -1, -1, -1, 1);
@@ -103,8 +130,7 @@ final class HeapsTold extends Told {
         due("of five even places", Dues.evenFive().heap(0, 6), -60);
         due("of a pair", Dues.groupOf(2, Dues.order(1, 0)).heap(0, 6), -1);
         due("of four in a round", Dues.groupOf(4, Dues.order(1, 2, 3, 0)).heap(0, 6), 0);
-        int[][] swaps = {{1, 0}, {0, 1, 3, 2}, {0, 1, 2, 3, 5, 4}, {0, 1, 2, 3, 4, 5, 7, 6}};
-        due("of four pairs", Dues.groupOf(8, swaps).heap(0, 6), 64);
+        due("of four pairs", Dues.groupOf(8, Groups.FOUR_PAIRS).heap(0, 6), 64);
     }
 
     @Holds(in = "Promise 9", words = "7 1 if s times t is always t times s there, else 0")
@@ -226,6 +252,20 @@ final class HeapsTold extends Told {
                     least = (all & ~Groups.membersOf(x, l)) == 0 ? least & Groups.membersOf(x, l) : least;
                 }
                 due("join(" + h + ", " + k + ", 1)", Groups.membersOf(x, x.join(h, k, 1)), least);
+            }
+        }
+    }
+
+    @Holds(in = "Promise 11", words = "the least that has all of both (1)")
+    void overBothOf120Turns() {
+        MarkTables x = Dues.fivePlaces();
+        for (int h = 0; h < 156; h++) {
+            for (int k = h % 11; k < 156; k += 11) {
+                int least = 0;
+                while (x.join(h, least, 0) != h || x.join(k, least, 0) != k) {
+                    least++;
+                }
+                due("join(" + h + ", " + k + ", 1)", x.join(h, k, 1), least);
             }
         }
     }

@@ -110,6 +110,19 @@ final class ImagesTold extends Told {
         }
     }
 
+    @Holds(in = "Promise 34", words = "are kept")
+    void oneImageThroughManyGroups() {
+        MarkTables x = withAll();
+        x.image(1);
+        String before = Groups.view(x);
+        for (int[] order : new int[][] {{1, 2, 3, 0}, {1, 2, 3, 4, 0}, {1, 0}, {1, 2, 3, 4, 5, 0}}) {
+            Groups.lay(x, new int[][] {order});
+            taken("another group", x, x.group(8), order.length);
+        }
+        x.back(1);
+        isTrue("the group is as it was", before.equals(Groups.view(x)));
+    }
+
     @Holds(in = "Promise 34", words = "-1.")
     void noImage() {
         MarkTables x = withAll();

@@ -190,6 +190,18 @@ final class RowTold extends Told {
         partsAre("they stayed", x, 0, 0, 1, 1, 0);
     }
 
+    @Holds(in = "Promise 30", words = "as MARKS of CLASSES in order")
+    void rowBehindAGreaterGroup() {
+        MarkTables x = Dues.groupOf(4, Dues.order(1, 0), Dues.order(0, 1, 3, 2));
+        taken("five classes", x, checkOf(x, 0, -1, -1, -1, -1, -1), 1);
+        due("the last one", x.misfit(), 4);
+        Groups.lay(x, new int[][] {{1, 2, 0}, {1, 0}});
+        x.group(3);
+        taken("four classes", x, checkOf(x, 0, 5, 1, 2, 0), 2);
+        due("none", x.misfit(), -1);
+        partsAre("a three and a two", x, 0, 0, 1, 1, 0);
+    }
+
     // ---- promise 31: misfit
 
     @Holds(in = "Promise 31", words = "Behind a check() that gave 0 the greatest CLASS"

@@ -105,14 +105,13 @@ final class TermsTold extends Told {
 
     @Holds(in = "Terms", words = "THE GROUP: all TURNS that those of the four SHEETS come to, one behind the other")
     void turnsOfFourSheets() {
-        int[][] swaps = {{1, 0}, {0, 1, 3, 2}, {0, 1, 2, 3, 5, 4}, {0, 1, 2, 3, 4, 5, 7, 6}};
         for (int s = 0; s < 4; s++) {
             MarkTables x = new MarkTables();
-            Dues.lay(x, s, swaps[s]);
+            Dues.lay(x, s, Groups.FOUR_PAIRS[s]);
             taken("sheet " + s + " alone", x, x.group(8), 2);
             due("its turn", x.turn(1, 2 * s), 2 * s + 1);
         }
-        due("all four", Dues.groupOf(8, swaps).count(1), 16);
+        due("all four", Dues.groupOf(8, Groups.FOUR_PAIRS).count(1), 16);
         due("a swap behind a round", Dues.threePlaces().count(1), 6);
         due("a round behind itself", Dues.groupOf(8, Dues.order(1, 2, 3, 4, 5, 6, 7, 0)).count(1), 8);
         due("the same twice", Dues.groupOf(2, Dues.order(1, 0), Dues.order(1, 0)).count(1), 2);
