@@ -46,7 +46,7 @@ final class Groups {
         return Dues.groupOf(8, Dues.order(1, 2, 3, 0, 5, 6, 7, 4), Dues.order(4, 7, 6, 5, 2, 1, 0, 3));
     }
 
-    /** All that can be asked of the group alone, but for what a few heaps of many are asked, as one text. */
+    /** What can be asked of the group alone, as one text; of many heaps only some are asked. */
     static String view(MarkTables x) {
         StringBuilder text = new StringBuilder();
         text.append(x.count(0)).append(' ').append(x.simple()).append(' ').append(x.rank()).append('\n');
