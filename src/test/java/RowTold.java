@@ -255,7 +255,7 @@ final class RowTold extends Told {
         due("behind one that gave 2 and kept no act", x.misfit(), -1);
     }
 
-    /** No sentence says that other calls change it, and a check() that is refused gave neither 0 nor 1 nor 2. */
+    /** No sentence says that other calls change it, and a check() that is refused is taken as if it were not made. */
     @Holds(in = "Promise 31", words = "Behind a check() that gave 0")
     void misfitBehindOtherCalls() {
         MarkTables x = Dues.threePlaces();
