@@ -33,6 +33,9 @@ public final class RulesTest {
         "\\bsynchronized\\b", "\\bassert\\b", "->", "::", "\\bimport\\b", "\\bpackage\\b", "Exact\\b",
         "\\bstatic\\s*\\{", "\\bwhile\\s*\\(\\s*true", "\\bSystem\\.(?!arraycopy)", "\\bvar\\b", "@"};
 
+    /** Static calls of the library that the rules leave; those that end in Exact are forbidden above. */
+    private static final String LIBRARY = "(Math|Integer|Long)\\.\\w+|System\\.arraycopy|Arrays\\.(copyOf|copyOfRange|fill)";
+
     public static void main(String[] args) throws IOException {
         testFace();
         testInside();
@@ -117,6 +120,10 @@ public final class RulesTest {
         for (String word : FORBIDDEN) {
             Matcher matcher = Pattern.compile(word).matcher(code);
             DUES.isTrue("no " + word, !matcher.find());
+        }
+        Matcher calls = Pattern.compile("\\b[A-Z]\\w*\\.\\w+(?=\\()").matcher(code);
+        while (calls.find()) {
+            DUES.isTrue(calls.group() + " is in the library that is left", calls.group().matches(LIBRARY));
         }
         int from = -1;
         String[] lines = text.split("\n");
